@@ -542,33 +542,29 @@ public final class LeastPatterns {
         private final int[] depths = new int[NODES];
         private int count = 0;
 
-        boolean has(int i) {
-            return i >= 0 && i < count && i < codes.length;
-        }
-
         int sortOf(int i) {
-            return has(i) ? codes[i] >> 8 : NO_SORT;
+            return i >= 0 && i < count ? codes[i] >> 8 : NO_SORT;
         }
 
         int numberOf(int i) {
-            return has(i) ? codes[i] >> 4 & 15 : 0;
+            return i >= 0 && i < count ? codes[i] >> 4 & 15 : 0;
         }
 
         /** The sort and the number in one. */
         int headOf(int i) {
-            return has(i) ? codes[i] >> 4 : NO_SORT;
+            return i >= 0 && i < count ? codes[i] >> 4 : NO_SORT;
         }
 
         int argumentsOf(int i) {
-            return has(i) ? codes[i] & 15 : 0;
+            return i >= 0 && i < count ? codes[i] & 15 : 0;
         }
 
         int spanOf(int i) {
-            return has(i) ? spans[i] : 0;
+            return i >= 0 && i < count ? spans[i] : 0;
         }
 
         int depthOf(int i) {
-            return has(i) ? depths[i] : 0;
+            return i >= 0 && i < count ? depths[i] : 0;
         }
 
         /** Appends a node; false if there is no room for it. */
@@ -593,7 +589,7 @@ public final class LeastPatterns {
 
         /** Tells a node that one more argument of it has come. */
         void countArgument(int i) {
-            if (has(i) && argumentsOf(i) < ARGUMENTS) {
+            if (i >= 0 && i < count && argumentsOf(i) < ARGUMENTS) {
                 codes[i]++;
             }
         }
@@ -605,14 +601,12 @@ public final class LeastPatterns {
                 for (int k = argumentsOf(i); k > 0; k--) {
                     next += spanOf(next);
                 }
-                if (has(i)) {
-                    spans[i] = next - i;
-                }
+                spans[i] = next - i;
             }
             for (int i = 0; i < count; i++) {
                 int next = i + 1;
                 for (int k = argumentsOf(i); k > 0; k--) {
-                    if (has(next)) {
+                    if (next < count) {
                         depths[next] = depthOf(i) + 1;
                     }
                     next += spanOf(next);
@@ -624,7 +618,7 @@ public final class LeastPatterns {
         int argument(int i, int k) {
             int next = i + 1;
             for (int passed = 0; passed < k; passed++) {
-                next += has(next) ? spans[next] : 0;
+                next += next < count ? spans[next] : 0;
             }
             return next;
         }
@@ -923,13 +917,13 @@ public final class LeastPatterns {
             for (int k = 0; k < howMany; k++) {
                 int from = starts[k];
                 int end = from + term.spanOf(from);
-                for (int at = from; at < end && to < NODES && term.has(at); at++) {
+                for (int at = from; at < end && at < term.count && to < NODES; at++) {
                     codes[to] = term.codes[at];
                     spans[to] = term.spans[at];
                     to++;
                 }
             }
-            for (int k = 0; k < to && term.has(i + 1 + k); k++) {
+            for (int k = 0; k < to && i + 1 + k < term.count; k++) {
                 term.codes[i + 1 + k] = codes[k];
                 term.spans[i + 1 + k] = spans[k];
             }

@@ -14,6 +14,7 @@ import java.io.IOException;
 import java.util.ArrayList;
 import java.util.EnumSet;
 import java.util.LinkedHashMap;
+import java.util.LinkedHashSet;
 import java.util.List;
 import java.util.Map;
 import java.util.Set;
@@ -37,6 +38,7 @@ public final class LanguageTest {
     /** The library's classes that the rules list, as far as the program uses any of them. */
     private static final Set<String> LIBRARY = Set.of("java.lang.Math", "java.lang.Integer", "java.lang.Long",
             "java.lang.String", "java.lang.StringBuilder", "java.lang.System", "java.util.Arrays", "java.lang.Object");
+    /** What the rules forbid, and of what they allow the casts, texts and annotations that the program needs none of. */
     private static final EnumSet<Tree.Kind> FORBIDDEN = EnumSet.of(Tree.Kind.THROW, Tree.Kind.TRY, Tree.Kind.ASSERT,
             Tree.Kind.SYNCHRONIZED, Tree.Kind.LAMBDA_EXPRESSION, Tree.Kind.MEMBER_REFERENCE, Tree.Kind.IMPORT,
             Tree.Kind.PACKAGE, Tree.Kind.ANNOTATION, Tree.Kind.STRING_LITERAL, Tree.Kind.TYPE_CAST);
@@ -147,7 +149,7 @@ public final class LanguageTest {
         public Void visitMethod(MethodTree tree, Void nothing) {
             Element before = method;
             method = trees.getElement(getCurrentPath());
-            CALLS.putIfAbsent(method, new java.util.LinkedHashSet<>());
+            CALLS.putIfAbsent(method, new LinkedHashSet<>());
             CHECK.due(method + " has more than 7 parameters", tree.getParameters().size() > 7 ? 1 : 0, 0);
             CHECK.due(method + " has more than 60 lines", lines(tree) > 60 ? lines(tree) : 0, 0);
             super.visitMethod(tree, nothing);

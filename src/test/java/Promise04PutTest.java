@@ -188,6 +188,8 @@ public final class Promise04PutTest {
         flat(0, 1, "a(b(c,d),b(c(d)))", "a(b(c(d)),b(c,d))");
         flat(0, 1, "a(c(b,b),b(c(c)))", "a(b(c(c)),c(b,b))");
         flat(0, 1, "a(c,b,0*)", "a(c,b,0*)");
+        flat(0, 1, "a(0*,c,b)", "a(0*,c,b)");
+        flat(0, 1, "a(d,0*,c,b)", "a(d,0*,c,b)");
         flat(0, 1, "a(b(1*),a(d,c,0*),a(d,c))", "a(b(1*),a(c,d),a(d,c,0*))");
         flat(0, 1, "0(c,b,a(c,b))", "0(c,b,a(b,c))");
         // inner nodes come first: sorted, the second argument is the smaller one

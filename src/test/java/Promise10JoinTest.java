@@ -102,6 +102,9 @@ public final class Promise10JoinTest {
         join(0, 1, "c(a(b),a)", "c(a,a(b))", "c(a(0*),a(1*))");
         join(0, 1, "c(a(b,b),a(b))", "c(a,a)", "c(a(0*),a(1*))");
         join(0, 1, "c(a(b(d)),a(b,d))", "c(a,a)", "c(a(0*),a(1*))");
+        join(0, 1, "c(a(b),b)", "c(a(b,b),b)", "c(a(b,0*),b)");
+        join(0, 1, "c(b,a(b))", "c(b,a(b,b))", "c(b,a(b,0*))");
+        join(0, 1, "c(a(b,b),a(b(d),e))", "c(a,a(b(d)))", "c(a(0*),a(b(d),1*))");
         join(0, 1, "c(b,a(d),e)", "c(d,a,b)", "c(0,a(1*),2)");
         join(0, 1, "a(b,c)", "d(b)", "0");
         join(0, 1, "a(b,b,b,b,b,b,b,b)", "a(b,b,b,b,b,b,b)", "a(b,b,b,b,b,b,b,0*)");

@@ -47,6 +47,11 @@ public final class Promise12OriginTest {
         origin(x, 2, 0, 0, none, 0, 1, 3);
         origin(x, 3, 4, 0, 1, 4, none, 0);
         origin(x, 4, 2, 0, none, 0, 1, 1);
+        LeastPatterns w = Check.with("c(a(b,b),a(b(d),e))", "c(a,a(b(d)))");
+        w.set(1, 1);
+        origin(w, 0, 1, 0, 2, 2, none, 0);
+        origin(w, 0, 1, 1, 7, 1, none, 0);
+        origin(w, 1, 0, 1, none, 0, 7, 1);
         LeastPatterns y = Check.with("a(b,1*,c)", "a(b,c)", "a(b(d),d,1*,c)");
         origin(y, 0, 1, 0, 2, 1, none, 0);
         origin(y, 2, 0, 0, 1, 2, 1, 1);

@@ -44,8 +44,8 @@ public final class RandomRunsTest {
         for (String answer : SEEN.keySet()) {
             System.out.println(answer + ": " + SEEN.get(answer) + " times");
         }
-        String[] due = {"put FULL or fault 1", "put FULL or fault 2", "put FULL or fault 3",
-            "put FULL or fault 4", "put FULL or fault 5", "join FULL", "learn FULL", "learn 0", "learn 1",
+        String[] due = {"put with fault 1", "put with fault 2", "put with fault 3",
+            "put with fault 4", "put with fault 5", "join FULL", "learn FULL", "learn 0", "learn 1",
             "apply FULL", "apply STATE", "isLeast 0", "isLeast 1", "compare 0", "compare 1", "compare 2",
             "compare 3", "origin NONE", "origin FULL", "filled NONE", "joinAll FULL", "undo STATE"};
         for (String answer : due) {
@@ -255,7 +255,7 @@ public final class RandomRunsTest {
             check("type", x.type(text.charAt(i)), model.type(text.charAt(i)));
         }
         int answer = model.put(r);
-        check(answer <= -10 ? "put FULL or fault " + model.fault() : "put", x.put(r), answer);
+        check(answer <= -10 ? "put with fault " + model.fault() : "put", x.put(r), answer);
         check("fault", x.fault(), model.fault());
         check("digest", x.digest(), model.digest());
     }
