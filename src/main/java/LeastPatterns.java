@@ -618,7 +618,7 @@ public final class LeastPatterns {
         int argument(int i, int k) {
             int next = i + 1;
             for (int passed = 0; passed < k; passed++) {
-                next += next < count ? spans[next] : 0;
+                next += spanOf(next);
             }
             return next;
         }
@@ -827,7 +827,6 @@ public final class LeastPatterns {
         private final int[] sequences = new int[NODES];
         private final int[] starts = new int[ARGUMENTS];
         private final int[] codes = new int[NODES];
-        private final int[] spans = new int[NODES];
 
         /** Returns the term with the arguments of flat symbols flattened, or null if that is a fault. */
         Term flattened(Term term, int flatSymbols) {
@@ -879,6 +878,7 @@ public final class LeastPatterns {
 
         /** Puts the arguments of sorted symbols in order, those of inner nodes first. */
         void arrange(Term term, int sortedSymbols) {
+            // only an outer node's arguments are asked for their spans then, and those stay
             for (int i = term.count - 1; i >= 0; i--) {
                 if (term.sortOf(i) == SYMBOL && (sortedSymbols >> term.numberOf(i) & 1) == 1
                         && term.argumentsOf(i) > 1 && term.sequencePlace(i) < 0) {
@@ -919,13 +919,11 @@ public final class LeastPatterns {
                 int end = from + term.spanOf(from);
                 for (int at = from; at < end && at < term.count && to < NODES; at++) {
                     codes[to] = term.codes[at];
-                    spans[to] = term.spans[at];
                     to++;
                 }
             }
             for (int k = 0; k < to && i + 1 + k < term.count; k++) {
                 term.codes[i + 1 + k] = codes[k];
-                term.spans[i + 1 + k] = spans[k];
             }
         }
     }

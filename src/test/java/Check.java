@@ -2,12 +2,14 @@
 final class Check {
     private int asked = 0;
     private int wrong = 0;
+    private String sentence = "";
+    private int askedBefore = 0;
 
     void due(String call, long got, long want) {
         asked++;
         if (got != want) {
             wrong++;
-            System.out.println(call + " answered " + got + ", due is " + want);
+            System.out.println(sentence + call + " answered " + got + ", due is " + want);
         }
     }
 
@@ -15,8 +17,52 @@ final class Check {
         asked++;
         if (!got.equals(want)) {
             wrong++;
-            System.out.println(what + " is " + got + ", due is " + want);
+            System.out.println(sentence + what + " is " + got + ", due is " + want);
         }
+    }
+
+    /** Begins the test of a sentence of the document; a sentence that asks nothing fails. */
+    void sentence(String promise, String words) {
+        endOfSentence();
+        sentence = promise + ", \"" + words + "\": ";
+    }
+
+    private void endOfSentence() {
+        if (!sentence.isEmpty() && asked == askedBefore) {
+            wrong++;
+            System.out.println(sentence + "nothing was asked");
+        }
+        askedBefore = asked;
+    }
+
+    interface Make {
+        LeastPatterns object();
+    }
+
+    interface Call {
+        int on(LeastPatterns x);
+    }
+
+    /** A call that must be refused and change nothing: the object stays like one without this call. */
+    void refused(String name, Make make, Call call, int want) {
+        LeastPatterns x = make.object();
+        due(name, call.on(x), want);
+        same("behind " + name, x, make.object());
+    }
+
+    /** Two objects must answer alike: now, behind each undo(), and when their texts are read. */
+    void same(String where, LeastPatterns x, LeastPatterns twin) {
+        due(where + ": registers", showAll(x), showAll(twin));
+        due(where + ": fault", x.fault(), twin.fault());
+        due(where + ": digest", x.digest(), twin.digest());
+        for (int n = 0; n <= 6; n++) {
+            due(where + ": undo", x.undo(), twin.undo());
+            due(where + ": registers behind undo", showAll(x), showAll(twin));
+            due(where + ": digest behind undo", x.digest(), twin.digest());
+        }
+        due(where + ": put", x.put(0), twin.put(0));
+        due(where + ": fault behind put", x.fault(), twin.fault());
+        due(where + ": digest behind put", x.digest(), twin.digest());
     }
 
     /** A call that must answer want for a register below and above its range. */
@@ -33,6 +79,7 @@ final class Check {
 
     /** Ends the test; a test that asked nothing fails, too. */
     void end() {
+        endOfSentence();
         System.out.println(asked + " answers, " + wrong + " not as due");
         if (wrong != 0 || asked == 0) {
             System.exit(1);
