@@ -4,6 +4,7 @@ final class Check {
     private int wrong = 0;
     private String sentence = "";
     private int askedBefore = 0;
+    private int sentences = 0;
 
     void due(String call, long got, long want) {
         asked++;
@@ -24,6 +25,7 @@ final class Check {
     /** Begins the test of a sentence of the document; a sentence that asks nothing fails. */
     void sentence(String promise, String words) {
         endOfSentence();
+        sentences++;
         sentence = promise + ", \"" + words + "\": ";
     }
 
@@ -80,7 +82,7 @@ final class Check {
     /** Ends the test; a test that asked nothing fails, too. */
     void end() {
         endOfSentence();
-        System.out.println(asked + " answers, " + wrong + " not as due");
+        System.out.println(asked + " answers to " + sentences + " sentences, " + wrong + " not as due");
         if (wrong != 0 || asked == 0) {
             System.exit(1);
         }
