@@ -288,6 +288,10 @@ public final class BoundaryJoiningTest {
         join(0, 1, deep.replace("(#)", ""), deep.replace("#", "b"), deep.replace("#", "0*"));
         join(1, 0, "b(b(b(b(b(b(b(a)))))))", deep.replace("#", "a"), "0(0(0(0(0(0(0(a)))))))");
         join(1, 0, "b(b(b(b(b(b(b(a)))))))", deep.replace("#", "b"), "0(0(0(0(0(0(0(1)))))))");
+        // aligned at each depth, with the inner term among the first arguments, and among the last ones
+        String inner = deep.replace("#", "b");
+        join(0, 1, inner, "a(".repeat(7) + "b" + ",c)".repeat(7), "a(".repeat(7) + "b" + ",0*)".repeat(7));
+        join(0, 1, "a(c,".repeat(7) + "b" + ")".repeat(7), inner, "a(0*,".repeat(7) + "b" + ")".repeat(7));
         LeastPatterns x = of(0, 0, deep.replace("#", "b"), deep.replace("#", "c"));
         x.join(0, 1, 2);
         CHECK.due("depth", x.size(2, 3), 7);

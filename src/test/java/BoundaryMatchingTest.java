@@ -355,7 +355,15 @@ public final class BoundaryMatchingTest {
         least("a(b,0*)", "a(b)", "a(b)", 0);
         least("a(b,0*)", "a(b)", "a(b,c)", 1);
         least("c(a(0*),b(0*))", "c(a,b)", "c(a,b)", 0);
+        // also where it is a head hole's only argument: what is left is filled by symbols without arguments
         least("0(1*)", "a", "b", 0);
+        least("0(1*)", "a", "b(c)", 1);
+        least("0(1*)", "a(7*)", "b", 1);
+        least("d(0(1*))", "d(a)", "d(b)", 0);
+        least("d(0(1*),0(m))", "d(a,a(m))", "d(b,b(m))", 0);
+        least("d(0(1*),1*)", "d(a)", "d(b)", 0);
+        least("d(0(1*),e(1*))", "d(a,e)", "d(b,e)", 0);
+        least("d(0(1*),e(1*))", "d(a,e)", "d(b(c),e(c))", 1);
         CHECK.sentence("Promise 17: isLeast", "a new term hole is put before a sequence hole, or behind it");
         least("a(0*)", "a(b)", "a(c)", 0);
         least("a(0*)", "a(b)", "a(c,d,e,f,g,h,i,j)", 0);
